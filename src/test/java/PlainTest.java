@@ -2,7 +2,7 @@ import java.util.Random;
 
 /** Runs of 512 calls, drawn with fixed seeds, on the class and on Plain: each answer and each ROW must be the same. */
 public final class PlainTest {
-    private static final int RUNS = 500;
+    private static final int RUNS = 250;
     private static final int CALLS = 512;
     private static final int[] FAR = {Integer.MIN_VALUE, -1000, -2, -1, 36, 37, 99, 100, 101, 1000, Integer.MAX_VALUE};
 
@@ -70,7 +70,6 @@ public final class PlainTest {
         return number(Math.max(0, plain.count(0) - 1));
     }
 
-    /** A STEP on from where it is, so that walks and prints of some length come about. */
     private void call() {
         switch (random.nextInt(10)) {
             case 0: callMoor(); break;

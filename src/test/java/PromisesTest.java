@@ -266,6 +266,8 @@ public final class PromisesTest {
         due.is("5-3-1", owedBy("5-3-1"), 1);
         due.is("1-2*s+a-3", owedBy("1-2*s+a-3"), -10);
         due.is("s+s-x", owedBy("s+s-x"), 9);
+        due.is("a+a+3*a", owedBy("a+a+3*a"), 10);
+        due.is("x-5*x", owedBy("x-5*x"), -4);
         due.is("30 signs", owedBy("1+1+1+1+1+1+1+1+1+1+1+1+1+1+12"), 26);
         due.is("30 signs", owedBy("99*s+99*s+99*s+99*s+99*s+99+99"), 25 * 99 + 198);
         GuideWalksLast x = new GuideWalksLast();
@@ -1039,6 +1041,8 @@ public final class PromisesTest {
         due.is("fairest(-1)", x.fairest(-1), NONE);
         due.fee(x, "a", 0);
         due.is("shelf(0)", x.shelf(0), true);
+        due.is("fairest(2), one alone", x.fairest(2), 0);
+        due.row(x, 39, 200);
         due.fee(x, "h", 0);
         due.is("shelf(2)", x.shelf(2), true);
         due.is("fairest(2)", x.fairest(2), 2);
@@ -1267,6 +1271,11 @@ public final class PromisesTest {
         due.is("prints", prints(x, 1, 0, 1, 2, 3), 4);
         due.is("rows()", x.rows(), 1);
         due.row(x, 1, 1, 1);
+        due.is("wipe()", x.wipe(), 4);
+        due.is("print(0, 1)", x.print(0, 1), 1);
+        due.is("print(1, 3), HEADING does not matter", x.print(1, 3), 2);
+        due.is("rows()", x.rows(), 1);
+        due.row(x, 1);
         due.is("prints", prints(x, 3, 0, 1), 2);
         due.is("rows()", x.rows(), 0);
         due.row(x);
@@ -1399,6 +1408,8 @@ public final class PromisesTest {
         due.is("hoarse(0, 3)", x.hoarse(0, 3), 1);
         due.is("hoarse(1, 3)", x.hoarse(1, 3), 13 - 8);
         due.is("hoarse(2, 3)", x.hoarse(2, 3), 0);
+        due.is("hoarse(1, 5)", x.hoarse(1, 5), 13 - 8);
+        due.is("hoarse(4, 5)", x.hoarse(4, 5), 0);
         due.row(x);
         due.is("hire(2) after", x.hire(2), 13);
     }
