@@ -9,6 +9,10 @@ final class Due {
         this.name = name;
     }
 
+    int asked() {
+        return asked;
+    }
+
     void begin(String part) {
         this.part = part;
     }

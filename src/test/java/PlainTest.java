@@ -1,15 +1,18 @@
 import java.util.Random;
 
-/** Runs of 512 calls, drawn with fixed seeds, on the class and on Plain: each answer and each ROW must be the same. */
+/** Runs of up to 512 calls, drawn with fixed seeds, on the class and on Plain: the answers must be the same. */
 public final class PlainTest {
-    private static final int RUNS = 250;
+    private static final int RUNS = 2500;
     private static final int CALLS = 512;
+    /** A walk of prints and all that is looked at behind it take fewer. */
+    private static final int CALLS_AT_ONCE = 180;
     private static final int[] FAR = {Integer.MIN_VALUE, -1000, -2, -1, 36, 37, 99, 100, 101, 1000, Integer.MAX_VALUE};
 
     private final Random random;
     private final GuideWalksLast x = new GuideWalksLast();
     private final Plain plain = new Plain();
     private final StringBuilder calls = new StringBuilder();
+    private int made;
     private int wrong;
 
     private PlainTest(int seed) {
@@ -23,7 +26,7 @@ public final class PlainTest {
             PlainTest run = new PlainTest(seed);
             run.go();
             wrong += run.wrong;
-            asked += CALLS;
+            asked += run.made;
         }
         System.out.println("PlainTest: " + asked + " calls, " + wrong + " runs not as due");
         if (wrong != 0) {
@@ -32,24 +35,40 @@ public final class PlainTest {
     }
 
     private void go() {
-        for (int i = 0; i < CALLS && wrong == 0; i++) {
+        while (made <= CALLS - CALLS_AT_ONCE && wrong == 0) {
             call();
-            check("ROW", rowOf(x), plain.row.toString());
-            for (int what = -1; what <= 12; what++) {
-                check("count(" + what + ")", x.count(what), plain.count(what));
+            if (random.nextInt(3) == 0) {
+                checkRow();
+            }
+            if (random.nextInt(6) == 0) {
+                checkCounts();
             }
         }
-    }
-
-    private static String rowOf(GuideWalksLast x) {
-        java.util.List<Long> row = new java.util.ArrayList<>();
-        for (int i = 0; !Due.throwsAt(x, i); i++) {
-            row.add(x.row(i));
+        checkCounts();
+        checkRow();
+        if (made > CALLS) {
+            throw new IllegalStateException("a run of " + made + " calls");
         }
-        return row.toString();
     }
 
+    private void checkCounts() {
+        for (int what = -1; what <= 12; what++) {
+            check("count(" + what + ")", x.count(what), plain.count(what));
+        }
+    }
+
+    private void checkRow() {
+        int size = plain.row.size();
+        check("count(10)", x.count(10), size);
+        for (int i = 0; i < size && wrong == 0; i++) {
+            check("row(" + i + ")", x.row(i), plain.row.get(i));
+        }
+        check("row(" + size + ") throws", Due.throwsAt(x, size), true);
+    }
+
+    /** What one call answered. */
     private void check(String call, Object got, Object want) {
+        made++;
         calls.append(call).append(" = ").append(want).append('\n');
         if (!got.equals(want) && wrong == 0) {
             wrong = 1;

@@ -180,12 +180,16 @@ public final class RulesTest {
 
     /** What 512 of the dearest calls make: an object is made once, calls make next to nothing. */
     private static void room() {
-        GuideWalksLast x = due.on("....../....../..o.../....../...#../.....H", 0, 0);
-        dearest(x);
+        dearest(dear());
+        GuideWalksLast x = dear();
         long before = bytesMade();
         dearest(x);
         long made = bytesMade() - before;
         due.is("512 calls make " + made + " bytes", made < 100_000, true);
+    }
+
+    private static GuideWalksLast dear() {
+        return due.on("....../....../..o.../....../...#../.....H", 0, 0);
     }
 
     /** By a way that not every Java has: 0 where it is missing. */
@@ -202,7 +206,7 @@ public final class RulesTest {
 
     private static void dearest(GuideWalksLast x) {
         x.weights(3, 4);
-        for (int i = 0; i < 64; i++) {
+        for (int i = 0; i < 60; i++) {
             x.loud(8, 100);
             x.fairest(5);
             x.fewest(8, 100);
