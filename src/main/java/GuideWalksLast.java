@@ -1522,7 +1522,7 @@ public final class GuideWalksLast {
             return before;
         }
 
-        /** With a mute GUIDE (NONE: none is): the most by each set of GUIDES that are hired already, all of them first. */
+        /** With a mute GUIDE (NONE: none is): the most by each set of GUIDES hired already, all of them first. */
         int most(int n, int muted) {
             parties = n;
             mute = muted;

@@ -309,8 +309,9 @@ final class DawnEdges {
     }
 
     private static void worthRefused(Edges e) {
-        int[][] others = {{5, 0, 1}, {0, 5, 1}, {-1, 0, 1}, {0, -1, 1}, {1, -1, 1}, {-1, 5, 1}, {1, -5, 1}, {0, 0, 100}, {0, 0, -1},
-            {4, 4, 100}, {5, 5, 1}, {MIN, 0, 1}, {MAX, 0, 1}, {0, MIN, 1}, {0, MAX, 1}, {0, 0, MIN}, {0, 0, MAX}};
+        int[][] others = {{5, 0, 1}, {0, 5, 1}, {-1, 0, 1}, {0, -1, 1}, {1, -1, 1}, {-1, 5, 1}, {1, -5, 1},
+            {0, 0, 100}, {0, 0, -1}, {4, 4, 100}, {5, 5, 1}, {MIN, 0, 1}, {MAX, 0, 1}, {0, MIN, 1}, {0, MAX, 1},
+            {0, 0, MIN}, {0, 0, MAX}};
         for (int[] o : others) {
             e.unchanged(Scenes::busy, "worth(" + o[0] + ", " + o[1] + ", " + o[2] + ")",
                 x -> x.worth(o[0], o[1], o[2]), NONE);

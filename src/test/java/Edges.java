@@ -37,7 +37,11 @@ final class Edges {
         due.begin("promise " + promise + ", '" + words + "'");
         due.is("words that stand there once", document.quote(promise, words), true);
         int before = due.asked();
-        test.run(this);
+        try {
+            test.run(this);
+        } catch (RuntimeException thrown) {
+            due.is("no call may throw " + thrown, true, false);
+        }
         due.is("a test that asks something", due.asked() > before, true);
     }
 
@@ -114,6 +118,9 @@ final class Edges {
         GuideWalksLast x = scene.make();
         due.is(name, call.of(x), want);
         same(name, x, scene.make());
+        x = scene.make();
+        due.is(name, call.of(x), want);
+        same(name, Seen.inAnotherOrder(x), Seen.inAnotherOrder(scene.make()));
     }
 
     /** As unchanged(), for a call that reads a text: THE TEXT is empty then, and that alone. */
@@ -129,8 +136,10 @@ final class Edges {
 
     /** Nothing that can be seen of the two is unlike. */
     void same(String name, GuideWalksLast x, GuideWalksLast y) {
-        List<String> got = Seen.of(x);
-        List<String> want = Seen.of(y);
+        same(name, Seen.of(x), Seen.of(y));
+    }
+
+    private void same(String name, List<String> got, List<String> want) {
         due.is(name + ": answers behind it", got.size(), want.size());
         for (int i = 0; i < got.size() && i < want.size(); i++) {
             due.is(name + ": behind it " + got.get(i) + ", not " + want.get(i), got.get(i).equals(want.get(i)), true);

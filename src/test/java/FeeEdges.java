@@ -250,6 +250,7 @@ final class FeeEdges {
         for (int n = 0; n <= 5; n++) {
             int length = n;
             e.unchanged(GuideWalksLast::new, "fairest(" + n + ")", x -> x.fairest(length), -2);
+            e.unchanged(Scenes::unladen, "fairest(" + n + ")", x -> x.fairest(length), -2);
         }
         GuideWalksLast x = leftish(9, "h");
         e.is("fairest(1), FEE is not on the shelf", x.fairest(1), -2);
@@ -258,7 +259,7 @@ final class FeeEdges {
     private static void fairestRefused(Edges e) {
         e.lengths("fairest()", 0, 5, GuideWalksLast::fairest);
         for (int n : new int[] {-1, 6, Edges.MIN, Edges.MAX}) {
-            e.unchanged(GuideWalksLast::new, "fairest(" + n + "), none is there", x -> x.fairest(n), NONE);
+            e.unchanged(Scenes::unladen, "fairest(" + n + "), none is there", x -> x.fairest(n), NONE);
         }
         e.onlyTells("fairest(5)", x -> x.fairest(5));
     }

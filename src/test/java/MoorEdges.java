@@ -695,6 +695,14 @@ final class MoorEdges {
         GuideWalksLast y = Scenes.home();
         e.is("sheet(3, 0, 1, 1)", y.sheet(3, 0, 1, 1), -3);
         e.kinds(y, 0, 0, 0, 3, 0, 0, 0, 0, 0, 0, 0, 0);
+        // nothing but CELLS, and what can be undone, changes; as by a sheet of no entries
+        for (Edges.Scene scene : new Edges.Scene[] {Scenes::busy, Scenes::sunk, Scenes::home}) {
+            GuideWalksLast missing = scene.make();
+            GuideWalksLast empty = scene.make();
+            e.is("sheet(3, 5, 1, 1)", missing.sheet(3, 5, 1, 1), -3);
+            e.is("sheet(0, 0, 1, 1)", empty.sheet(0, 0, 1, 1) >= 0, true);
+            e.same("sheet(3, 5, 1, 1)", missing, empty);
+        }
     }
 
     private static void sheetRefused(Edges e) {

@@ -24,8 +24,8 @@ public final class RulesTest {
         + "|int codes int int|int meant int int int int|int print int int|int wipe|long rows|int lies"
         + "|int worth int int int|int hire int|int hoarse int int|int seed int|boolean keep int|boolean again int"
         + "|int count int|long row int";
-    private static final int[] WILD = {Integer.MIN_VALUE, Integer.MIN_VALUE + 1, -65536, -100, -37, -4, -3, -2, -1, 0, 1,
-        2, 3, 4, 5, 6, 7, 8, 9, 10, 11, 12, 20, 30, 31, 35, 36, 37, 44, 79, 80, 81, 99, 100, 101, 143, 144, 65536,
+    private static final int[] WILD = {Integer.MIN_VALUE, Integer.MIN_VALUE + 1, -65536, -100, -37, -4, -3, -2, -1, 0,
+        1, 2, 3, 4, 5, 6, 7, 8, 9, 10, 11, 12, 20, 30, 31, 35, 36, 37, 44, 79, 80, 81, 99, 100, 101, 143, 144, 65536,
         Integer.MAX_VALUE - 1, Integer.MAX_VALUE};
     private static final String SIGNS = "....oH#/lor0123456789+-*hxsa";
 

@@ -49,13 +49,24 @@ final class Scenes {
 
     /** THE PARTY is on a firm CELL behind 4 STEPS, one of them asked; 4 prints, 2 FEES on the shelf, one place kept. */
     static GuideWalksLast busy() {
+        return busy(true);
+    }
+
+    /** As busy(), but no FEE is on the shelf. */
+    static GuideWalksLast unladen() {
+        return busy(false);
+    }
+
+    private static GuideWalksLast busy(boolean isLaden) {
         GuideWalksLast x = new GuideWalksLast();
         text(x, MOOR);
         x.moor();
-        fee(x, "5*h-x");
-        x.shelf(0);
-        fee(x, "3*x-s");
-        x.shelf(2);
+        if (isLaden) {
+            fee(x, "5*h-x");
+            x.shelf(0);
+            fee(x, "3*x-s");
+            x.shelf(2);
+        }
         fee(x, "9*h-2*x-a+s");
         x.weights(3, 5);
         x.set(0, 6);

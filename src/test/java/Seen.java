@@ -4,6 +4,7 @@ import java.util.List;
 /**
  * All that can be seen of an object, what no call tells outright too: that is brought out by calls that change the
  * object, so it is of no use behind it. A moor of 12 CELLS and 7 STEPS are the most that fit in 512 calls.
+ * There are two orders, as the calls that look can be refused: what one part of it spoils another order sees first.
  */
 final class Seen {
     private final GuideWalksLast x;
@@ -17,16 +18,31 @@ final class Seen {
         Seen seen = new Seen(x);
         seen.counts();
         seen.row("ROW");
-        seen.land();
+        seen.cells();
+        seen.tracks();
         seen.add("look()", x.look());
         seen.row("ROW of look()");
         seen.prints();
         seen.fees();
         seen.add("R", x.seed(7));
         seen.past();
-        seen.places();
+        seen.places(true);
         seen.chances();
         seen.worths();
+        return seen.all;
+    }
+
+    static List<String> inAnotherOrder(GuideWalksLast x) {
+        Seen seen = new Seen(x);
+        seen.counts();
+        seen.row("ROW");
+        seen.add("rain()", x.rain());
+        seen.worths();
+        seen.places(false);
+        seen.fees();
+        seen.chances();
+        seen.prints();
+        seen.cells();
         return seen.all;
     }
 
@@ -47,11 +63,10 @@ final class Seen {
         }
     }
 
-    private void land() {
+    private void cells() {
         for (int c = 0; c < x.count(0); c++) {
             add("cell(" + c + ")", x.cell(c));
         }
-        tracks();
     }
 
     private void tracks() {
@@ -80,26 +95,27 @@ final class Seen {
             add(when + " count(" + what + ")", x.count(what));
         }
         add(when + " R", x.seed(7));
-        tracks();
     }
 
     private void past() {
         while (x.undo() >= 0) {
             party("undone");
+            tracks();
         }
     }
 
-    private void places() {
+    private void places(boolean withTracks) {
         for (int i = 0; i < 3; i++) {
-            if (x.again(i)) {
-                party("again(" + i + ")");
-            } else {
-                add("again(" + i + ")", 0);
+            boolean isKept = x.again(i);
+            add("again(" + i + ")", isKept ? 1 : 0);
+            party("again(" + i + ")");
+            if (isKept && withTracks) {
+                tracks();
             }
         }
     }
 
-    /** WEIGHTS and HEARD, from where a STEP goes to another CELL by each TURN, if there is such a CELL. */
+    /** WEIGHTS, HEARD and FEES, from where a STEP goes to another CELL by each TURN, if there is such a CELL. */
     private void chances() {
         int c = x.count(0) - x.count(1) - 2;
         add("go", x.go(c, 1) ? 1 : 0);
@@ -109,6 +125,8 @@ final class Seen {
             row("ROW of behind()");
         }
         add("HEARD", x.set(1, 5));
+        x.set(0, 9);
+        fees();
     }
 
     private void worths() {

@@ -40,7 +40,8 @@ final class TermEdges {
     private static void drawTests(Edges e) {
         e.test(0, "R = R times 1103515245 + 12345 (as ints; R at first 1)", TermEdges::drawsWrap);
         e.test(0, "(R without sign, by 65536) % n", TermEdges::drawsWithoutSign);
-        e.test(0, "below the first WEIGHT left, below the first two together on, else right.", TermEdges::drawsByWeight);
+        e.test(0, "below the first WEIGHT left, below the first two together on, else right.",
+            TermEdges::drawsByWeight);
     }
 
     private static void feeTests(Edges e) {
