@@ -267,7 +267,7 @@ public final class GuideWalksLast {
         return tellCells(spread.cells());
     }
 
-    // ---- chances
+    // ---- chances (of the next n STEPS, 0 .. 8; HOME or SUNK it stays so)
 
     public int never(int n) {
         if (!isLength(n, MOST_STEPS)) {
@@ -364,7 +364,7 @@ public final class GuideWalksLast {
         return CANNOT;
     }
 
-    // ---- fees
+    // ---- fees (FEE is paid behind the last of n STEPS; those it did not need, HOME or SUNK, are not counted)
 
     public int owed() {
         return pay.endsWith(land.kindOf(party.where), party.where) + pay.steps * party.steps + pay.asks * party.asks;
